@@ -35,10 +35,11 @@ public final class GrammarSuite {
     private static final int STARTS = POINTS_OF_ALL * PLACES;
     private static final int ITEMS = POINTS_OF_ALL * CELLS;
 
-    // Each round but the last finds something new, so there are no more rounds than things to find
-    // and one: kinds in cells for the first bound, starts at one place for the second.
+    // Each round but the last finds something new, so there is at most one round more than there
+    // are things to find: a kind for a stretch (the cells are more than the stretches) in the first
+    // bound, a start for a point behind a symbol at one place in the second.
     private static final int ROUNDS = KINDS * CELLS;
-    private static final int ROUNDS_AT_PLACE = STARTS;
+    private static final int ROUNDS_AT_PLACE = POINTS_OF_ALL * PLACES;
     // What rules hand on from symbol to kind needs no more steps than there are kinds, because a
     // way that comes by a kind twice can be cut short.
     private static final int KIND_ROUNDS = KINDS;
