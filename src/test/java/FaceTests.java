@@ -26,7 +26,7 @@ public final class FaceTests {
     private static final String[] WORDS_NOT_USED = {
         "package", "import", "throw", "throws", "try", "catch", "synchronized", "assert",
         "instanceof", "float", "double", "null", "String", "Math", "Integer", "System", "Arrays",
-        "Object", "interface", "enum", "record", "protected", "clone", "hashCode", "getClass",
+        "Object", "interface", "enum", "protected", "clone", "hashCode", "getClass",
     };
 
     private static int wrong = 0;
@@ -96,9 +96,13 @@ public final class FaceTests {
                     && (f.getType() == int.class || f.getType() == long.class));
         }
         due("there are at most forty fields", fields <= 40);
-        Set<String> names = new HashSet<>();
+        Set<String> publicNames = new HashSet<>();
+        for (Method m : GrammarSuite.class.getMethods()) {
+            publicNames.add(m.getName());
+        }
         for (Method m : GrammarSuite.class.getDeclaredMethods()) {
-            due("only one method is called " + m.getName(), names.add(m.getName()));
+            due(m + " bears no public method's name", !Modifier.isPrivate(m.getModifiers())
+                    || !publicNames.contains(m.getName()));
             due(m + " takes at most seven parameters", m.getParameterCount() <= 7);
             due(m + " answers no array", !m.getReturnType().isArray());
             for (Class<?> type : m.getParameterTypes()) {
@@ -115,8 +119,8 @@ public final class FaceTests {
             due("'" + word + "' is not used", !whole.matcher(code).find());
         }
         for (String line : code.split("\n")) {
-            due("arrays are made in fields alone: " + line.strip(), !line.contains("new ")
-                    || line.matches("    private final \\w+\\[\\] \\w+ = new \\w+\\[[A-Z_]+\\];"));
+            due("nothing but arrays of a constant length is made: " + line.strip(),
+                    !line.contains("new ") || line.matches(".* = new [a-z]+\\[([A-Z_]+|\\d+)\\];"));
         }
         due("there is no lambda or method reference", !code.contains("->") && !code.contains("::"));
         due("there is no text", !code.contains("\""));
