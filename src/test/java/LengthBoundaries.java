@@ -9,6 +9,8 @@ public final class LengthBoundaries extends Check {
         test("10: with sixteen rules", LengthBoundaries::longestWithSixteenRules);
         test("10: BAD when there is no such kind", LengthBoundaries::longestOfNoKind);
         test("11: the least number of stretches: 1 .. 10", LengthBoundaries::partsOfEach);
+        test("11: the least number: neither the longest stretches first nor last",
+                LengthBoundaries::partsAreTheFewest);
         test("11: none of them empty", LengthBoundaries::partsAreNotEmpty);
         test("11: 0 when the word is empty", LengthBoundaries::partsOfTheEmptyWord);
         test("11: NONE when that can't be done: the first, a middle or the last letter is left",
@@ -84,6 +86,25 @@ public final class LengthBoundaries extends Check {
             x.parts(3).is(length % 2 == 0 ? length / 2 : NONE);
             x.parts(4).is(NONE);
         }
+    }
+
+    private static void partsAreTheFewest() {
+        Suite x = Suite.withWord("abccc");
+        x.add(0, A);
+        x.add(0, B);
+        x.add(0, C, C, C);
+        x.parts(0).is(3);
+        x.add(0, A, B, C);
+        x.parts(0).is(3);
+        x.add(0, C, C);
+        x.parts(0).is(2);
+        Suite y = Suite.withWord("aaabb");
+        y.add(0, A, A, A);
+        y.add(0, B);
+        y.parts(0).is(3);
+        y.add(0, A, A);
+        y.add(0, A, B, B);
+        y.parts(0).is(2);
     }
 
     private static void partsAreNotEmpty() {
