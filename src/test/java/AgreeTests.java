@@ -1,10 +1,6 @@
-import java.io.IOException;
 import java.lang.reflect.Method;
-import java.net.URL;
-import java.net.URLClassLoader;
 import java.nio.file.Files;
 import java.nio.file.Path;
-import javax.tools.ToolProvider;
 
 /**
  * Promise 9: agree looks at all kinds and stretches. The engines of the program all find the same,
@@ -37,26 +33,13 @@ public final class AgreeTests extends Check {
             System.out.println("left out: the program has no fill that could be made to err");
             return;
         }
-        copy = compiled(text.replace(FILL, ERRING_FILL));
+        copy = Compiled.from(text.replace(FILL, ERRING_FILL), "GrammarSuite", COPY,
+                ClassLoader.getPlatformClassLoader());
         test("9: the same for all kinds and stretches: a difference in one of them is seen",
                 () -> eachWord(AgreeTests::differenceIsSeen));
         test("9: for all kinds and stretches: other symbols and places do not matter",
                 () -> eachWord(AgreeTests::restDoesNotMatter));
         end();
-    }
-
-    private static Class<?> compiled(String text) throws IOException, ClassNotFoundException {
-        Files.createDirectories(COPY);
-        Path file = COPY.resolve("GrammarSuite.java");
-        Files.writeString(file, text);
-        int code = ToolProvider.getSystemJavaCompiler().run(null, null, null,
-                "-d", COPY.toString(), file.toString());
-        if (code != 0) {
-            throw new IllegalStateException("the copy that errs does not compile");
-        }
-        URL[] place = {COPY.toUri().toURL()};
-        return new URLClassLoader(place, ClassLoader.getPlatformClassLoader())
-                .loadClass("GrammarSuite");
     }
 
     private interface Trial {

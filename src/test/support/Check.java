@@ -31,7 +31,7 @@ abstract class Check {
     }
 
     static void end() {
-        System.out.println(tests + " boundary tests, " + wrong + " faults");
+        System.out.println(tests + " tests, " + wrong + " faults");
         if (wrong != 0) {
             System.exit(1);
         }
